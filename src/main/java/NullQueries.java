@@ -325,7 +325,7 @@ public final class NullQueries {
         if (isSubquery(token)) {
             pushNeed(CONDITION | WITHIN);
             if (token >= 100) {
-                pushNeed(EXPRESSION | within);
+                pushNeed(EXPRESSION);
             }
             return;
         }
@@ -520,11 +520,15 @@ public final class NullQueries {
 
     /** One combination without rows, which source 0 is then joined to like the others. */
     private void startCombinations() {
+        takeRowsFromFirst();
+        hand[SUBQUERY_SOURCE] = NO_ROW;
+        combinationCount = 1;
+    }
+
+    private void takeRowsFromFirst() {
         for (int source = 0; source < MOST_SOURCES; source++) {
             combined[source] = NO_ROW;
         }
-        hand[SUBQUERY_SOURCE] = NO_ROW;
-        combinationCount = 1;
     }
 
     private void takeInHand(int combination) {
@@ -587,8 +591,7 @@ public final class NullQueries {
     private void evaluateCombinations() {
         int count = combinationCount;
         if (count == 0) {
-            startCombinations();
-            combinationCount = 0;
+            takeRowsFromFirst();
             count = 1;
         }
         for (int i = 0; i < count; i++) {

@@ -200,7 +200,7 @@ public final class AnswersTest {
         due.rows("WHERE that is UNKNOWN keeps nothing", q, 1, 1, N, 3, 1, N);
     }
 
-    private static void allCombinations() {
+    private static NullQueries full() {
         NullQueries q = new NullQueries();
         for (int i = 0; i < 6; i++) {
             for (int table = 0; table < 3; table++) {
@@ -209,28 +209,41 @@ public final class AnswersTest {
         }
         for (int table = 0; table < 3; table++) {
             q.from(table, true);
-            due.feed(q, 4 + table, 10 * table);
         }
-        int[] want = new int[3 * 216];
-        for (int i = 0; i < 216; i++) {
-            want[3 * i] = i / 36;
-            want[3 * i + 1] = i / 6 % 6;
-            want[3 * i + 2] = i % 6;
-        }
-        due.rows("216 combinations", q, want);
+        return q;
+    }
+
+    /** The answer has to be all 216 combinations in their order; by a third, so that 512 calls do. */
+    private static void allRows(String what, NullQueries q, int rest) {
+        due.is(what + ": run()", q.run(), 216);
         int digest = 0;
         for (int i = 0; i < 216; i++) {
-            digest += (i + 1) * (want[3 * i] + 3 * want[3 * i + 1] + 7 * want[3 * i + 2]);
+            int[] want = {i / 36, i / 6 % 6, i % 6};
+            digest += (i + 1) * (want[0] + 3 * want[1] + 7 * want[2]);
+            int output = (i + rest) % 3;
+            due.is(what + ": answer(" + i + ", " + output + ")", q.answer(i, output), want[output]);
         }
-        due.is("digest", q.digest(), digest);
-        q.distinct(true);
-        due.rows("216 different rows", q, want);
-        due.feed(q, 9, 72, 50, 73, 0, 50);
-        due.rows("216 equal in order", q, want);
-        q.erase(9);
+        due.is(what + ": digest()", q.digest(), digest);
+        due.is(what + ": answer after the last", q.answer(216, 0), Due.NONE);
+    }
+
+    private static void allCombinations() {
+        for (int rest = 0; rest < 3; rest++) {
+            for (int distinct = 0; distinct < 2; distinct++) {
+                NullQueries q = full();
+                q.distinct(distinct == 1);
+                due.feed(q, 4, 0);
+                due.feed(q, 5, 10);
+                due.feed(q, 6, 20);
+                allRows("216 combinations", q, rest);
+                due.feed(q, 9, 72, 50, 73, 0, 50);
+                allRows("216 equal in order", q, rest);
+            }
+        }
+        NullQueries q = full();
+        due.feed(q, 4, 0);
         due.feed(q, 9, 72, 50, 0);
-        q.erase(5);
-        q.erase(6);
+        q.distinct(true);
         due.rows("216 backwards", q, 5, N, N, 4, N, N, 3, N, N, 2, N, N, 1, N, N, 0, N, N);
         q.summary(1, 1);
         due.rows("one group of 216", q, 0, 216, N);

@@ -46,13 +46,14 @@ public final class QueryPartsTest {
     }
 
     private static void feedOfFirstTokens() {
-        NullQueries q = new NullQueries();
         for (int part = 0; part < 10; part++) {
             for (int token = -200; token <= 1100; token++) {
+                NullQueries q = new NullQueries();
                 boolean taken = part <= 3 ? isConditionStart(token) : isExpressionStart(token);
                 due.is("first feed(" + part + ", " + token + ")", q.feed(part, token), taken ? 1 : Due.BAD);
                 due.is("erase(" + part + ")", q.erase(part), taken ? 1 : 0);
             }
+            NullQueries q = new NullQueries();
             due.is("feed", q.feed(part, Integer.MIN_VALUE), Due.BAD);
             due.is("feed", q.feed(part, Integer.MAX_VALUE), Due.BAD);
         }
