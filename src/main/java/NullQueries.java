@@ -520,12 +520,12 @@ public final class NullQueries {
 
     /** One combination without rows, which source 0 is then joined to like the others. */
     private void startCombinations() {
-        takeRowsFromFirst();
+        emptyFirstCombination();
         hand[SUBQUERY_SOURCE] = NO_ROW;
         combinationCount = 1;
     }
 
-    private void takeRowsFromFirst() {
+    private void emptyFirstCombination() {
         for (int source = 0; source < MOST_SOURCES; source++) {
             combined[source] = NO_ROW;
         }
@@ -591,7 +591,7 @@ public final class NullQueries {
     private void evaluateCombinations() {
         int count = combinationCount;
         if (count == 0) {
-            takeRowsFromFirst();
+            emptyFirstCombination();
             count = 1;
         }
         for (int i = 0; i < count; i++) {
