@@ -1,3 +1,6 @@
+import java.util.function.Supplier;
+import java.util.function.ToIntFunction;
+
 /** Counts the answers that are not the ones due, and ends the test by that count. */
 final class Due {
     static final int NULL = 1000;
@@ -7,12 +10,30 @@ final class Due {
 
     private int checks;
     private int wrong;
+    private int sentences;
+    private int checksBefore;
+    private String sentence = "";
+
+    /** The sentence of the document that the answers from here on are about, and the section it is in. */
+    void says(String section, String quoted) {
+        endSentence();
+        sentence = section + ", \"" + quoted + "\"";
+        sentences++;
+        checksBefore = checks;
+    }
+
+    private void endSentence() {
+        if (sentences > 0 && checks == checksBefore) {
+            wrong++;
+            System.out.println(sentence + ": no answer is looked at");
+        }
+    }
 
     void is(String call, long got, long want) {
         checks++;
         if (got != want) {
             wrong++;
-            System.out.println(call + " answered " + got + ", due is " + want);
+            System.out.println((sentences > 0 ? sentence + ": " : "") + call + " answered " + got + ", due is " + want);
         }
     }
 
@@ -21,6 +42,12 @@ final class Due {
         for (int i = 0; i < tokens.length; i++) {
             is("feed(" + part + ", " + tokens[i] + ")", q.feed(part, tokens[i]), i + 1);
         }
+    }
+
+    /** Puts these tokens in the place of what a part has. */
+    void refeed(NullQueries q, int part, int... tokens) {
+        q.erase(part);
+        feed(q, part, tokens);
     }
 
     /** Runs the query; the answer has to have these rows, three values each. */
@@ -33,8 +60,23 @@ final class Due {
         is(what + ": answer after the last row", q.answer(want.length / 3, 0), NONE);
     }
 
+    /** The answer of a call after which the object has to look like another one that is made alike. */
+    void changesNothing(String name, Supplier<NullQueries> made, ToIntFunction<NullQueries> call, int want) {
+        NullQueries q = made.get();
+        is(name, call.applyAsInt(q), want);
+        boolean alike = Sample.lookAt(q).equals(Sample.lookAt(made.get()));
+        is(name + " changes nothing", alike ? 1 : 0, 1);
+    }
+
+    /** Numbers that are not 0 .. count - 1: the next ones and the farthest ones. */
+    static int[] outside(int count) {
+        return new int[] {-1, count, Integer.MIN_VALUE, Integer.MAX_VALUE};
+    }
+
     void end() {
-        System.out.println(wrong == 0 ? checks + " answers are as due" : wrong + " of " + checks + " answers are not as due");
+        endSentence();
+        String of = sentences > 0 ? " to " + sentences + " sentences" : "";
+        System.out.println(wrong == 0 ? checks + " answers" + of + " are as due" : wrong + " of " + checks + " answers are not as due");
         if (wrong != 0) {
             System.exit(1);
         }
