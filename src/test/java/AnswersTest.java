@@ -8,7 +8,7 @@ public final class AnswersTest {
         runWithAPartThatIsNeither();
         runNamingNoSource();
         runNamingSourceThree();
-        runTestsInOrder();
+        runRefusedForEveryReason();
         runKeepsItsAnswer();
         runRefusedKeepsTheAnswer();
         runAgain();
@@ -153,7 +153,7 @@ public final class AnswersTest {
         due.changesNothing("run with source 3 and no source", () -> naming(0, 3, 0, true), q -> q.run(), Due.BAD);
     }
 
-    private static void runTestsInOrder() {
+    private static void runRefusedForEveryReason() {
         due.says("Terms", "A refused call (an answer below 0) changes nothing.");
         due.changesNothing("no source, a part begun, a source named", () -> {
             NullQueries q = hasRun();

@@ -31,6 +31,17 @@ public final class JoinsTest {
         return q;
     }
 
+    /** Table 0 joined with table 1, where column 1 of the one equals column 0 of the other. */
+    private static NullQueries peopleJoined(boolean left) {
+        NullQueries q = people();
+        q.from(0, false);
+        q.from(1, left);
+        due.feed(q, 1, 81, 1, 10);
+        due.feed(q, 4, 0);
+        due.feed(q, 5, 11);
+        return q;
+    }
+
     private static void sourcesAfterTheFirst() {
         due.says("Terms", "those after the first are JOINED: kind 0 INNER, 1 LEFT.");
         for (int kinds = 0; kinds < 8; kinds++) {
@@ -77,12 +88,7 @@ public final class JoinsTest {
 
     private static void rowsForWhichOnIsTrue() {
         due.says("Terms", "every combination so far is put together with the rows of the source, in their order, for which the ON condition");
-        NullQueries q = people();
-        q.from(0, false);
-        q.from(1, false);
-        due.feed(q, 1, 81, 1, 10);
-        due.feed(q, 4, 0);
-        due.feed(q, 5, 11);
+        NullQueries q = peopleJoined(false);
         due.rows("UNKNOWN is not TRUE", q, 1, 1, N, 1, 2, N, 3, 1, N, 3, 2, N);
         due.refeed(q, 1, 83, 1, 10);
         due.rows("NULL the same as NULL", q, 1, 1, N, 1, 2, N, 2, 3, N, 3, 1, N, 3, 2, N);
@@ -135,12 +141,7 @@ public final class JoinsTest {
 
     private static void leftJoinsOfNoRow() {
         due.says("Terms", "a LEFT one keeps it, with NULL in all columns of the source.");
-        NullQueries q = people();
-        q.from(0, false);
-        q.from(1, true);
-        due.feed(q, 1, 81, 1, 10);
-        due.feed(q, 4, 0);
-        due.feed(q, 5, 11);
+        NullQueries q = peopleJoined(true);
         due.feed(q, 6, 74, 12, 49);
         due.rows("one without a row", q, 1, 1, 1, 1, 2, 2, 2, N, -1, 3, 1, 1, 3, 2, 2);
         due.refeed(q, 1, 80, 50, 50);
@@ -255,12 +256,7 @@ public final class JoinsTest {
 
     private static void whereIsTrue() {
         due.says("Terms", "Those are kept for which WHERE is TRUE (or which is empty).");
-        NullQueries q = people();
-        q.from(0, false);
-        q.from(1, true);
-        due.feed(q, 1, 81, 1, 10);
-        due.feed(q, 4, 0);
-        due.feed(q, 5, 11);
+        NullQueries q = peopleJoined(true);
         due.feed(q, 0, 82, 11);
         due.rows("WHERE sees the NULLs of a LEFT join", q, 2, N, N);
         due.refeed(q, 0, 80, 11, 52);
