@@ -1,25 +1,18 @@
-import java.io.IOException;
 import java.lang.reflect.Constructor;
 import java.lang.reflect.Field;
 import java.lang.reflect.Method;
 import java.lang.reflect.Modifier;
-import java.nio.file.Files;
-import java.nio.file.Path;
 import java.util.Arrays;
 import java.util.Set;
 import java.util.TreeSet;
-import java.util.regex.Matcher;
-import java.util.regex.Pattern;
 
-/** The public face of the document, and those rules of LANGUAGE.md that a search can see. */
+/** The public face of the document, and the rules of LANGUAGE.md on members. */
 public final class FaceTest {
     private static final Set<String> METHODS = Set.of(
             "int row(int,int,int,int)", "int drop(int,int)", "int value(int,int,int)", "int from(int,boolean)",
             "int feed(int,int)", "int erase(int)", "int summary(int,int)", "int distinct(boolean)", "void clear()",
             "int state(int)", "int run()", "int size()", "int answer(int,int)", "int digest()");
     private static final Set<String> CONSTANTS = Set.of("NULL = 1000", "BAD = -2000", "FULL = -2001", "NONE = -2002");
-    private static final String FORBIDDEN = "\\b(import|package|throw|throws|try|catch|synchronized|assert|instanceof|null"
-            + "|float|double|String|Math|Integer|Long|System|Arrays|Object|record|enum|interface|protected)\\b|->|::";
 
     private static int wrong;
 
@@ -29,7 +22,6 @@ public final class FaceTest {
         constructors();
         same("modifiers", Modifier.toString(NullQueries.class.getModifiers()), "public final");
         same("nested classes", NullQueries.class.getDeclaredClasses().length, 0);
-        source();
         System.out.println(wrong == 0 ? "the face is as due" : wrong + " things are not as due");
         if (wrong != 0) {
             System.exit(1);
@@ -86,18 +78,5 @@ public final class FaceTest {
         Constructor<?>[] all = NullQueries.class.getDeclaredConstructors();
         same("constructors", all.length, 1);
         same("constructor", all[0].toString(), "public NullQueries()");
-    }
-
-    private static void source() throws IOException {
-        String text = Files.readString(Path.of("src/main/java/NullQueries.java"));
-        String code = text.replaceAll("(?s)/\\*.*?\\*/", "").replaceAll("//[^\n]*", "");
-        Matcher forbidden = Pattern.compile(FORBIDDEN).matcher(code);
-        while (forbidden.find()) {
-            same("forbidden word", forbidden.group(), "none");
-        }
-        for (String line : code.split("\n")) {
-            boolean initialiser = line.matches("    private final (int|long|boolean)\\[\\] \\w+ = new \\1\\[[A-Z_]+\\];");
-            same("new outside of a field's initialiser: " + line, line.matches(".*\\bnew\\b.*") && !initialiser, false);
-        }
     }
 }
